@@ -638,7 +638,8 @@ public final class RulePrices {
      * THE SHARE VALUE is the least bound that prices of the RULES prove: each LIMIT at its price, and
      * each MOST at what one of the THING is worth beyond the prices. Prices that just pay for some
      * THINGS with as many RULES are the corners among them; the least bound is at one of these,
-     * whatever the LIMITS are, and each bound grows with a LIMIT by that RULE's price.
+     * whatever the LIMITS are, and each bound grows with a LIMIT by that RULE's price. A long is wide
+     * enough: belows stay under 2^17, slopes under 2^21, tops under 2^33, and two are multiplied at most.
      */
     private static final class Corners {
         /** Ways to choose as many of 6 RULES as of 4 THINGS: 4 of 10. */
@@ -654,9 +655,11 @@ public final class RulePrices {
 
         void find(Book book) {
             size = 0;
-            for (int chosen = 0; chosen < 1 << book.rules; chosen++) {
-                if (allCount(book, chosen)) {
-                    findWith(book, chosen);
+            for (int paying = 0; paying < 1 << book.rules; paying++) {
+                if (allCount(book, paying)) {
+                    for (int paid = 0; paid < 1 << book.things; paid++) {
+                        tryCorner(book, paying, paid);
+                    }
                 }
             }
         }
@@ -670,29 +673,19 @@ public final class RulePrices {
             return true;
         }
 
-        private void findWith(Book book, int chosenRules) {
-            int width = Integer.bitCount(chosenRules);
-            for (int paid = 0; paid < 1 << book.things; paid++) {
-                if (Integer.bitCount(paid) == width && size < MOST_CORNERS) {
-                    writeEquations(book, chosenRules, paid);
-                    tryCorner(book, chosenRules, width);
-                }
-            }
-        }
-
         private static boolean has(int chosen, int number) {
             return (chosen >> number & 1) != 0;
         }
 
         /** One row for each THING that is just paid for, one column for each RULE that pays. */
-        private void writeEquations(Book book, int chosenRules, int paid) {
+        private void writeEquations(Book book, int paying, int paid) {
             int row = 0;
             for (int t = 0; t < book.things; t++) {
                 if (has(paid, t)) {
                     dues[row] = book.worths[t];
                     int column = 0;
                     for (int r = 0; r < book.rules; r++) {
-                        if (has(chosenRules, r)) {
+                        if (has(paying, r)) {
                             cells[row * MOST_THINGS + column] = book.factors[r * MOST_THINGS + t];
                             column++;
                         }
@@ -702,9 +695,14 @@ public final class RulePrices {
             }
         }
 
-        private void tryCorner(Book book, int chosenRules, int width) {
+        private void tryCorner(Book book, int paying, int paid) {
+            int width = Integer.bitCount(paying);
+            if (Integer.bitCount(paid) != width || size >= MOST_CORNERS) {
+                return;
+            }
+            writeEquations(book, paying, paid);
             long below = determinant(cells, width, 0, 0);
-            if (below == 0 || !writePrices(chosenRules, width, below)) {
+            if (below == 0 || !writePrices(paying, width, below)) {
                 return;
             }
             belows[size] = Math.abs(below);
@@ -713,11 +711,11 @@ public final class RulePrices {
         }
 
         /** By Cramer's rule, as it leaves whole numbers; no price may be below 0. */
-        private boolean writePrices(int chosenRules, int width, long below) {
+        private boolean writePrices(int paying, int width, long below) {
             int column = 0;
             for (int r = 0; r < MOST_RULES; r++) {
                 long top = 0;
-                if (has(chosenRules, r)) {
+                if (has(paying, r)) {
                     swapDues(column, width);
                     top = determinant(cells, width, 0, 0);
                     swapDues(column, width);

@@ -33,6 +33,9 @@ public final class CompareTest {
         for (int run = 1540; run < 1560 && check.allRight(); run++) {
             new CompareTest(check, run, 9).holdOneByOne();
         }
+        for (int run = 1560; run < 1960 && check.allRight(); run++) {
+            new CompareTest(check, run, 9).askSharesOfGreatNumbers();
+        }
         check.end();
     }
 
@@ -80,6 +83,29 @@ public final class CompareTest {
             if (plain.told(10 + r) != 2) {
                 due("holds", r, 0, tried.holds(r), plain.holdsOneByOne(r));
             }
+        }
+    }
+
+    /** Four THINGS under six sums with great amounts: the greatest numerators and denominators. */
+    private void askSharesOfGreatNumbers() {
+        for (int t = 0; t < 4; t++) {
+            int worth = between(90, 99);
+            due("thing", worth, 9, tried.thing(worth, 9), plain.thing(worth, 9));
+        }
+        for (int r = 0; r < 6; r++) {
+            int limit = pick(2) == 0 ? between(0, 200) : between(0, 20);
+            due("rule", r, limit, tried.rule(0, 0, 0, limit), plain.rule(0, 0, 0, limit));
+            for (int t = 0; t < 4; t++) {
+                int v = pick(4) == 0 ? between(-9, 0) : between(6, 9);
+                due("amount v " + v, r, t, tried.amount(r, t, v), plain.amount(r, t, v));
+            }
+        }
+        due("share false", 0, 0, tried.share(false), plain.share(false));
+        due("share true", 0, 0, tried.share(true), plain.share(true));
+        for (int r = 0; r < 6; r++) {
+            due("sharePrice false", r, 0, tried.sharePrice(r, false), plain.sharePrice(r, false));
+            due("sharePrice true", r, 0, tried.sharePrice(r, true), plain.sharePrice(r, true));
+            due("holds", r, 0, tried.holds(r), plain.holds(r));
         }
     }
 

@@ -29,6 +29,7 @@ public final class PromisesTest {
         promise22Holds();
         promise23Gap();
         promise24Told();
+        fullObjectAnswersAll();
         CHECK.end();
     }
 
@@ -97,6 +98,12 @@ public final class PromisesTest {
         due("thing: four stay", x.told(0), 4);
         due("thing: worth kept", x.told(30), -99);
         due("thing: most kept", x.told(41), 9);
+        RulePrices later = bakery();
+        later.value();
+        later.share(false);
+        later.thing(6, 2);
+        due("thing: it counts at once", later.value(), 30);
+        due("thing: it counts at once for shares", later.share(false), 92);
     }
 
     private static void promise3Rule() {
@@ -661,5 +668,39 @@ public final class PromisesTest {
         due("told: -10", x.told(-10), BAD);
         due("told: greatest", x.told(GREATEST), BAD);
         due("told: least", x.told(LEAST), BAD);
+    }
+
+    /** As many THINGS, RULES and plans as there can be: 20 of all, and for rule 5 one of thing 3 is as two. */
+    private static void fullObjectAnswersAll() {
+        RulePrices x = new RulePrices();
+        for (int t = 0; t < 4; t++) {
+            x.thing(10 + t, 9);
+        }
+        for (int r = 0; r < 6; r++) {
+            x.rule(0, 0, 0, 20);
+            for (int t = 0; t < 4; t++) {
+                x.amount(r, t, 1);
+            }
+        }
+        x.amount(5, 3, 2);
+        due("full: value", x.value(), 227);
+        due("full: all", x.counted(2), 10000);
+        due("full: first", x.first(0), 2);
+        due("full: fast", x.fast(3), 1);
+        due("full: price", x.price(5, 1), 3);
+        due("full: weight", x.weight(5), 20);
+        due("full: rank", x.rank(0), 5);
+        due("full: last rank", x.rank(5), 4);
+        due("full: more", x.more(3), BAD);
+        due("full: must", x.must(3, 9), 141);
+        due("full: span", x.span(3, true), 20);
+        due("full: put", x.put(3, 9), 0);
+        due("full: worth", x.worth(), 117);
+        due("full: broken", x.broken(), NONE);
+        due("full: share", x.share(false), 227);
+        due("full: share price", x.sharePrice(5, false), 3);
+        due("full: holds", x.holds(5), 2);
+        due("full: gap", x.gap(false), 0);
+        due("full: told", x.told(2), 6);
     }
 }
