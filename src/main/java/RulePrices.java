@@ -18,8 +18,8 @@ public final class RulePrices {
     private static final int TOO_MANY_OF = 100;
     private static final int FARTHEST = 400;
 
-    private final Book book;
     private final Walk walk;
+    private final Book book;
     private final Survey survey;
     private final Corners corners;
     private final int[] putCounts;
@@ -27,8 +27,8 @@ public final class RulePrices {
     private boolean cornersAreFresh;
 
     public RulePrices() {
-        book = new Book();
-        walk = new Walk(book);
+        walk = new Walk();
+        book = walk.book;
         survey = new Survey();
         corners = new Corners();
         putCounts = new int[MOST_THINGS];
@@ -413,16 +413,13 @@ public final class RulePrices {
         /** Above every sum that a plan can have in a RULE. */
         private static final int NO_LIMIT = 1000000;
 
-        private final Book book;
+        /** Made here and not handed in, as a constructor hands out nothing of the object that it makes. */
+        final Book book = new Book();
         private final int[] limits = new int[MOST_RULES];
         private final int[] mosts = new int[MOST_THINGS];
         private final int[] loads = new int[MOST_RULES];
         final int[] counts = new int[MOST_THINGS];
         int sum;
-
-        Walk(Book book) {
-            this.book = book;
-        }
 
         void begin() {
             for (int r = 0; r < book.rules; r++) {

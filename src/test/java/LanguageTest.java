@@ -37,6 +37,13 @@ public final class LanguageTest {
         nothingLeftOutIsUsed(code);
         onlyArraysIsImported(code);
         methodsAreShort(code);
+        constructorsHandOutNothing(code);
+        onlyListedFunctionsAreCalled(code);
+        classesAreSmall();
+        staticsAreConstants(RulePrices.class);
+        for (Class<?> inside : RulePrices.class.getDeclaredClasses()) {
+            staticsAreConstants(inside);
+        }
         CHECK.end();
     }
 
@@ -135,6 +142,56 @@ public final class LanguageTest {
             } else if (begun >= 0 && lines[i].equals(indent + "}")) {
                 CHECK.due("over 60 lines: " + lines[begun].trim(), i - begun + 1 > 60 ? 1 : 0, 0);
                 begun = -1;
+            }
+        }
+    }
+
+    /** Rule 12: nothing that is made takes a part of its maker; "this" stands nowhere as a value. */
+    private static void constructorsHandOutNothing(String code) {
+        Matcher made = Pattern.compile("\\bnew (\\w+)\\(([^)]*)\\)").matcher(code);
+        int found = 0;
+        while (made.find()) {
+            found++;
+            CHECK.due("new " + made.group(1) + " takes", made.group(2), "");
+        }
+        CHECK.due("things are made", found > 0 ? 1 : 0, 1);
+        CHECK.due("this as a value", Pattern.compile("\\bthis\\b(?! *\\.)").matcher(code).find() ? 1 : 0, 0);
+    }
+
+    /** Rule 4. */
+    private static void onlyListedFunctionsAreCalled(String code) {
+        List<String> listed =
+                List.of("Arrays.fill", "Integer.bitCount", "Math.abs", "Math.floorDiv", "Math.max", "Math.min");
+        Matcher calls = Pattern.compile("\\b[A-Z]\\w*[a-z]\\w*\\.\\w+").matcher(code.replaceAll("import [^;]*;", ""));
+        while (calls.find()) {
+            CHECK.due(calls.group() + " is listed", listed.contains(calls.group()) ? 1 : 0, 1);
+        }
+    }
+
+    /** Rule 11. */
+    private static void classesAreSmall() {
+        List<Class<?>> all = new ArrayList<>(Arrays.asList(RulePrices.class.getDeclaredClasses()));
+        all.add(RulePrices.class);
+        CHECK.due("over 12 classes", all.size() > 12 ? 1 : 0, 0);
+        for (Class<?> one : all) {
+            int fields = 0;
+            for (Field field : one.getDeclaredFields()) {
+                fields += Modifier.isStatic(field.getModifiers()) ? 0 : 1;
+            }
+            CHECK.due(one.getName() + " has over 20 fields", fields > 20 ? 1 : 0, 0);
+            for (Method method : one.getDeclaredMethods()) {
+                CHECK.due(method.getName() + " takes over 7", method.getParameterCount() > 7 ? 1 : 0, 0);
+            }
+        }
+    }
+
+    /** Rule 5; rows of numbers would be allowed too, but there are none. */
+    private static void staticsAreConstants(Class<?> one) {
+        for (Field field : one.getDeclaredFields()) {
+            if (Modifier.isStatic(field.getModifiers())) {
+                String name = one.getName() + "." + field.getName();
+                CHECK.due(name + " is final", Modifier.isFinal(field.getModifiers()) ? 1 : 0, 1);
+                CHECK.due(name + " is of type", field.getType().getName(), "int");
             }
         }
     }
